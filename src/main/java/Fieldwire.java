@@ -674,9 +674,11 @@ public final class Fieldwire {
         }
 
         static int stepsBetween(int one, int two) {
-            int rows = Math.abs(one / SIDE - two / SIDE);
-            int columns = Math.abs(one % SIDE - two % SIDE);
-            return Math.max(rows, columns);
+            int rows = one / SIDE - two / SIDE;
+            int columns = one % SIDE - two % SIDE;
+            rows = rows < 0 ? -rows : rows;
+            columns = columns < 0 ? -columns : columns;
+            return rows > columns ? rows : columns;
         }
 
         /** The next CELL of the COURSE from one CELL to another one. */

@@ -9,8 +9,8 @@ import java.util.List;
  * digest behind each call have to be the same, and no exception may come from the Java machine or its library.
  */
 public final class RandomRunsTest {
-    private static final int RUNS = 400;
-    private static final int CALLS = 300;
+    private static final int RUNS = 500;
+    private static final int CALLS = 220;
     private static final String[] TOLD = {"write", "write", "write", "write", "pass", "pass", "pass", "pass", "pass",
         "shell", "shell", "mend", "mend", "move", "birds", "fly", "fly", "turn", "capture", "post", "jam", "state",
         "ground", "wire", "call"};
@@ -51,12 +51,14 @@ public final class RandomRunsTest {
                 callBoth("ground", new Object[] {from, from + upTo(4), upTo(4), upTo(4)});
             }
         }
+        // some runs are for the air alone, so that batteries run down
+        boolean isOnAir = run % 5 == 1;
         int desks = 2 + upTo(5);
         for (int k = 0; k < desks; k++) {
-            Object[] told = {cell(), 1 + upTo(2), upTo(10), upTo(10), upTo(2) == 0};
+            Object[] told = {cell(), 1 + upTo(2), upTo(10), upTo(10), isOnAir || upTo(2) == 0};
             callBoth("desk", told);
         }
-        int wires = upTo(10);
+        int wires = isOnAir ? 0 : upTo(10);
         for (int k = 0; k < wires; k++) {
             callBoth("wire", new Object[] {upTo(desks), upTo(desks), upTo(4) == 0});
         }
