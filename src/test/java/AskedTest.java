@@ -508,6 +508,9 @@ public final class AskedTest {
         y.mend(0, 0);
         Due.is("of still more", y.digest(), sum(y));
         Due.is("asked once more", y.digest(), sum(y));
+        y.desk(7, 1, 0, 0, false);
+        Due.is("a third is right: 64 / 3 is cut to 21", (long) (64 * y.right(1)), 21L);
+        Due.is("with that", y.digest(), sum(y));
     }
 
     private static void isSound() {

@@ -42,7 +42,8 @@ final class Due {
         no(call, IllegalStateException.class, x, made);
     }
 
-    private static String all(Fieldwire x) {
+    /** All that can be asked of it, but for its past. */
+    static String all(Fieldwire x) {
         StringBuilder all = new StringBuilder().append(x.digest());
         for (int cell = 0; cell < 64; cell++) {
             for (int what = 0; what <= 5; what++) {
