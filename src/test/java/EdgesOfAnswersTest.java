@@ -491,6 +491,24 @@ public final class EdgesOfAnswersTest {
         Fieldwire x = new Fieldwire();
         Due.is("of nothing", x.isSound(), true);
         Due.is("of a desk without men", Made.desks(0).isSound(), true);
+        // each WIRE carries one, all CORDS are in use, one is on the air, and men are under way
+        Fieldwire y = new Fieldwire();
+        y.ground(0, 63, 0, 1);
+        y.desk(0, 1, 1, 1, true);
+        y.desk(3, 1, 1, 1, true);
+        y.desk(6, 1, 1, 1, true);
+        y.wire(0, 1, false);
+        y.wire(1, 0, false);
+        y.write(0, 1, 0, 99, 0, false, 0);
+        y.write(1, 0, 0, 99, 0, false, 0);
+        y.write(2, 0, 0, 99, 0, false, 0);
+        y.write(2, 0, 2, 99, 0, false, 0);
+        y.mend(1, 0);
+        y.pass(1);
+        Due.is("one on the wire", y.ofMessage(0, 10), 0);
+        Due.is("one on the air", y.ofMessage(1, 10), 2);
+        Due.is("a runner", y.ofMessage(2, 10), 3);
+        Due.is("sound", y.isSound(), true);
     }
 
     /** "d becomes d * 31 + v, which wraps around as a 64-bit integer" */

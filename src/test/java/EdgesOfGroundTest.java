@@ -15,6 +15,7 @@ public final class EdgesOfGroundTest {
         seesAlongTheCourseOfTheSmallerNumber();
         paceOfRunners();
         paceOfLinesmen();
+        paceBothWays();
         paceAsSent();
         sixDesks();
         menAboveNine();
@@ -220,6 +221,15 @@ public final class EdgesOfGroundTest {
         Due.is("one alone, the smoke is gone", x.sees(7, 7), true);
         x.shell(0);
         Due.is("smoke at the smaller end", x.sees(0, 7), false);
+        x.pass(1);
+        x.shell(40);
+        x.pass(3);
+        Due.is("the last minute of smoke", x.ofCell(0, 2), 1);
+        Due.is("at the smaller end", x.sees(0, 7), false);
+        Due.is("at the greater end", x.sees(41, 0), false);
+        x.pass(1);
+        Due.is("the last minute of smoke at 40", x.sees(36, 40), false);
+        Due.is("it is gone at 0", x.sees(0, 7), true);
     }
 
     /** "the COURSE from the smaller number to the greater one" */
@@ -273,6 +283,41 @@ public final class EdgesOfGroundTest {
                 Due.is("none is under way", x.field(14), 0);
                 Due.is("he is there", x.ofDesk(1, 4), 1);
             }
+        }
+    }
+
+    /** A RUNNER goes along the COURSE from where he is; a LINESMAN along that of the WIRE, "from the other end: backwards". */
+    private static void paceBothWays() {
+        // from 0 to 10 by 9, from 10 to 0 by 1
+        for (int from = 0; from <= 1; from++) {
+            Fieldwire x = new Fieldwire();
+            x.ground(9, 9, 0, 1);
+            x.ground(1, 1, 0, 3);
+            x.desk(0, 1, 1, 1, false);
+            x.desk(10, 1, 1, 1, false);
+            Made.report(x, from, 1 - from, 1);
+            x.pass(1);
+            Due.is("a runner from " + from, x.ofMessage(0, 11), from == 0 ? 10 : 13);
+            x.wire(0, 1, false);
+            x.mend(from, 0);
+            x.pass(13);
+            Due.is("a linesman from " + from, x.ofDesk(1 - from, 4), 1);
+            x.pass(1);
+            Due.is("by the wood: 4 + 6 + 4", x.ofDesk(1 - from, 4), 2);
+        }
+        // of a WIRE from 10 to 0, by 1
+        for (int from = 0; from <= 1; from++) {
+            Fieldwire x = new Fieldwire();
+            x.ground(9, 9, 0, 1);
+            x.ground(1, 1, 0, 3);
+            x.desk(0, 1, 0, 1, false);
+            x.desk(10, 1, 0, 1, false);
+            x.wire(1, 0, false);
+            x.mend(from, 0);
+            x.pass(16);
+            Due.is("a linesman from " + from, x.ofDesk(1 - from, 4), 1);
+            x.pass(1);
+            Due.is("by the water: 4 + 9 + 4", x.ofDesk(1 - from, 4), 2);
         }
     }
 
@@ -545,9 +590,17 @@ public final class EdgesOfGroundTest {
             Due.is("5 again", y.ofCell(63, 2), 5);
             Due.is("not beside it", y.ofCell(62, 2), 0);
         }
-        x.shell(0);
-        x.shell(0);
-        Due.is("not twice 5", x.ofCell(0, 2), 5);
+        for (int cell = 0; cell < 64; cell++) {
+            x.shell(cell);
+            x.shell(cell);
+            Due.is("not twice 5", x.ofCell(cell, 2), 5);
+        }
+        for (int left = 4; left >= -1; left--) {
+            x.pass(1);
+            for (int cell = 0; cell < 64; cell++) {
+                Due.is("smoke at " + cell, x.ofCell(cell, 2), Math.max(0, left));
+            }
+        }
     }
 
     /** "if it is BROKEN as he has gone along it, he stands there for 10 MINUTES more .. and it is not BROKEN any more" */

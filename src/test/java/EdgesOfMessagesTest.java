@@ -14,6 +14,7 @@ public final class EdgesOfMessagesTest {
         lampMinutes();
         lampSteps();
         lampInUse();
+        lampInUseAlone();
         radioMinutes();
         radioRanksAndSets();
         oneOnTheAir();
@@ -29,6 +30,7 @@ public final class EdgesOfMessagesTest {
         wireIsKept();
         lampIsKept();
         radioIsKept();
+        radioFromADeskBetween();
         bookNineThenOne();
         bookAsItIsWritten();
         garbledAmongTwentyFour();
@@ -36,6 +38,7 @@ public final class EdgesOfMessagesTest {
         captured();
         heardByRadio();
         heardByLamp();
+        heardByLampFromADeskBetween();
         heardByWire();
         heardAsItIsSent();
         reportsOfTheSameOrigin();
@@ -322,6 +325,39 @@ public final class EdgesOfMessagesTest {
         Due.is("free in the minute in which the first one comes", x.ofMessage(1, 8), 1);
         x.pass(1);
         Due.is("it came", x.ofMessage(1, 8), 2);
+    }
+
+    /** What the DESK sends by something else does not free its LAMP as it comes. */
+    private static void lampInUseAlone() {
+        Fieldwire x = new Fieldwire();
+        x.desk(16, 1, 0, 0, true);
+        x.desk(18, 1, 0, 0, true);
+        x.desk(20, 1, 0, 0, false);
+        Made.pass(x, 360);
+        x.wire(0, 2, false);
+        x.birds(0, 1, 1);
+        Made.report(x, 0, 1, 99);
+        x.pass(1);
+        Due.is("by lamp", x.ofMessage(0, 10), 1);
+        Made.report(x, 0, 2, 1);
+        x.write(0, 1, 0, 1, 0, false, 0);
+        Made.report(x, 0, 1, 1);
+        x.fly(3);
+        x.pass(1);
+        Due.is("by wire", x.ofMessage(1, 10), 0);
+        Due.is("by radio", x.ofMessage(2, 10), 2);
+        x.pass(1);
+        Due.is("both came", x.ofMessage(1, 8) + x.ofMessage(2, 8), 4);
+        Made.report(x, 0, 1, 1);
+        Due.is("the lamp is in use", x.would(4), -1);
+        x.pass(1);
+        Due.is("the bird came", x.ofMessage(3, 8), 2);
+        Due.is("the lamp is in use", x.would(4), -1);
+        x.pass(9);
+        Due.is("for 13 minutes", x.ofMessage(0, 11), 1);
+        Due.is("the lamp is in use", x.would(4), -1);
+        x.pass(1);
+        Due.is("then it is free", x.ofMessage(4, 10), 1);
     }
 
     /** Two DESKS with SETS in woods. */
@@ -725,6 +761,32 @@ public final class EdgesOfMessagesTest {
         Due.is("sent", x.ofMessage(0, 8), 1);
     }
 
+    /** "WAITS again where it came from", and the battery "of its DESK": those of the DESK that sends, not of the first one. */
+    private static void radioFromADeskBetween() {
+        Fieldwire x = new Fieldwire();
+        x.ground(0, 63, 0, 1);
+        x.desk(56, 1, 0, 0, true);
+        x.desk(59, 1, 0, 0, true);
+        x.desk(63, 1, 0, 0, true);
+        x.wire(0, 1, false);
+        x.wire(1, 2, false);
+        x.write(0, 2, 0, 30, 0, false, 0);
+        x.pass(1);
+        x.shell(61);
+        x.pass(2);
+        Due.is("by radio from 1", x.tell(0), "0: report 0>2 by radio to 2");
+        x.pass(1);
+        Due.is("the battery of 1", x.ofDesk(1, 5), 59);
+        Due.is("that of 0", x.ofDesk(0, 5), 60);
+        x.jam(2);
+        x.pass(1);
+        Due.is("kept at 1", x.tell(0), "0: report 0>2 waits at 1");
+        x.jam(0);
+        x.pass(5);
+        Due.is("it came", x.ofMessage(0, 8), 2);
+        Due.is("the desk that it left last", x.ofMessage(0, 9), 1);
+    }
+
     /** "a DESK's BOOK is 1 more (9, then 1)" */
     private static void bookNineThenOne() {
         Fieldwire x = Made.far(2);
@@ -892,6 +954,25 @@ public final class EdgesOfMessagesTest {
         Due.is("from row 1", y.ofMessage(1, 13), 2);
     }
 
+    /** "the DESK that sends": not the first one, if it is another one. */
+    private static void heardByLampFromADeskBetween() {
+        for (int first = 0; first <= 1; first++) {
+            // desk 0 is in row 0, desk 1 and the goal in row 2
+            Fieldwire x = Made.desks(7, 23, 19);
+            x.wire(0, 1, false);
+            x.wire(1 - first, 2, false);
+            Made.report(x, first, 2, 20);
+            x.pass(1);
+            Due.is("by wire", x.ofMessage(0, 10), 0);
+            x.shell(20);
+            x.pass(2);
+            Due.is("it waits between", x.tell(0), "0: report " + first + ">2 waits at " + (1 - first));
+            x.pass(3);
+            Due.is("by lamp, as the smoke is gone", x.ofMessage(0, 10), 1);
+            Due.is("heard from row 0 alone", x.ofMessage(0, 13), first == 0 ? 0 : 2);
+        }
+    }
+
     /** "a WIRE of which a CELL is 2 STEPS or less from the POST and is not BURIED" */
     private static void heardByWire() {
         for (int post = -1; post < 64; post++) {
@@ -908,6 +989,17 @@ public final class EdgesOfMessagesTest {
                 Made.report(x, 0, 1, 1);
                 x.pass(1);
                 Due.is("its message", x.ofMessage(0, 13), due * 2);
+            }
+        }
+        // each CELL as the one that is plain, and a POST at each CELL
+        for (int plain = 26; plain <= 29; plain++) {
+            for (int post = 0; post < 64; post++) {
+                Fieldwire x = Made.inWoods(26, 29);
+                x.wire(0, 1, true);
+                x.shell(plain);
+                x.post(post);
+                boolean isNear = Math.abs(post / 8 - 3) <= 2 && Math.abs(post % 8 - plain % 8) <= 2;
+                Due.is("plain at " + plain + ", the post at " + post, x.heard(0) & 1, isNear ? 1 : 0);
             }
         }
         // one CELL alone is plain
